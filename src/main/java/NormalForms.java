@@ -351,11 +351,11 @@ public final class NormalForms {
             findDegree(top);
         }
 
+        /** By a number other than 0: the degree stays. */
         void multiply(int factor) {
             for (int power = 0; power <= degree; power++) {
                 numbers[power] = numbers[power] * factor % MODULUS;
             }
-            findDegree(degree);
         }
 
         void makeMonic() {
@@ -769,7 +769,6 @@ public final class NormalForms {
 
         /** Sets power to (x + shift) to the exponent, less multiples of the modulus. */
         private void raise(int shift, int exponent, Polynomial modulus) {
-            base.clear();
             base.setNumber(0, shift);
             base.setNumber(1, 1);
             power.clear();

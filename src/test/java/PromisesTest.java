@@ -290,7 +290,7 @@ public final class PromisesTest {
         formIs("Hermite", x, 0, 1, 0);
         formIs("Hermite", x, 0, 1, 1, 1, 1);
 
-        // A pivot column is left out, rows of zeros come last, and no column is put on another.
+        // The first column has no pivot, rows of zeros come last, columns are not put onto others.
         NormalForms y = sized(3, 3);
         polynomial(y, 1, 1, 0, 0, 2);
         polynomial(y, 1, 2, 4);
@@ -328,7 +328,7 @@ public final class PromisesTest {
         formIs("Smith", x, 1, 1, 0);
         formIs("Smith", x, 1, 0, 2);
 
-        // x^2 before x: they change places; no entry can be had twice.
+        // x^2 stands before x: they change places.
         NormalForms y = sized(3, 3);
         polynomial(y, 0, 0, 0, 0, 2);
         polynomial(y, 1, 2, 0, 3);
@@ -338,7 +338,7 @@ public final class PromisesTest {
         formIs("order", y, 1, 2, 2);
         formIs("order", y, 1, 1, 2);
 
-        // The highest degree that there is: x^3 + 1 at (i, i + c), times x^3 four times.
+        // The highest degree that there is: x^3 + i at (i, i), none having a common divisor.
         NormalForms z = sized(4, 4);
         for (int i = 0; i < 4; i++) {
             polynomial(z, i, i, i, 0, 0, 1);

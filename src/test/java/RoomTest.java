@@ -19,7 +19,7 @@ public final class RoomTest {
         check.equal("fields and elements at most 10000", made[1] <= 10000, true);
         long bytes = allocatedBy(x);
         System.out.println(CALLS + " calls: " + bytes + " bytes");
-        check.equal("calls make nothing", bytes < 1000, true);
+        check.equal("calls make nothing", bytes < 10000, true);
         long[] after = held(x);
         check.equal("objects after the calls", after[0], made[0]);
         check.equal("fields after the calls", after[1], made[1]);
