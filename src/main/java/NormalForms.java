@@ -280,7 +280,6 @@ public final class NormalForms {
         int factor = inverseOf(whole.numberAt(0));
         int lines = (1 << rowCount) - 1;
         Matrix inverse = forms[INVERSE];
-        inverse.clear();
         for (int i = 0; i < rowCount; i++) {
             for (int j = 0; j < columnCount; j++) {
                 Polynomial cell = inverse.cell(i, j);

@@ -52,6 +52,17 @@ final class Check {
         }
     }
 
+    /** An entry of a form must have just these numbers (none: it is 0). */
+    void form(String what, NormalForms x, int form, int i, int j, int... numbers) {
+        String place = what + ", form " + form + " at (" + i + ", " + j + ")";
+        answers(place + " degree", () -> x.degree(form, i, j), numbers.length - 1);
+        for (int power = -1; power <= 13; power++) {
+            int p = power;
+            int due = power < 0 || power >= numbers.length ? 0 : Math.floorMod(numbers[power], 32003);
+            answers(place + " power " + power, () -> x.at(form, i, j, p), due);
+        }
+    }
+
     void finish() {
         System.out.println(asked + " answers compared, " + wrong + " of them wrong");
         if (wrong != 0) {

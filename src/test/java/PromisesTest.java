@@ -1,8 +1,8 @@
 /** Each promise of the document by itself, with answers that were worked out by hand. */
 public final class PromisesTest {
     private static final Check check = new Check();
-    private static final int LEAST = Integer.MIN_VALUE;
-    private static final int MOST = Integer.MAX_VALUE;
+    private static final int LEAST = Given.LEAST;
+    private static final int MOST = Given.MOST;
 
     public static void main(String[] args) {
         promise1NewObject();
@@ -27,38 +27,6 @@ public final class PromisesTest {
         promise13Blocks();
         promise14Count();
         check.finish();
-    }
-
-    private static NormalForms sized(int rows, int columns) {
-        NormalForms x = new NormalForms();
-        x.size(rows, columns);
-        return x;
-    }
-
-    /** A square matrix of numbers, row by row. */
-    private static NormalForms ofNumbers(int side, int... numbers) {
-        NormalForms x = sized(side, side);
-        for (int k = 0; k < numbers.length; k++) {
-            x.put(k / side, k % side, 0, numbers[k]);
-        }
-        return x;
-    }
-
-    private static void polynomial(NormalForms x, int i, int j, int... numbers) {
-        for (int power = 0; power < numbers.length; power++) {
-            x.put(i, j, power, numbers[power]);
-        }
-    }
-
-    /** An entry of a form must have just these numbers (none: it is 0). */
-    private static void formIs(String what, NormalForms x, int form, int i, int j, int... numbers) {
-        String place = what + ", form " + form + " at (" + i + ", " + j + ")";
-        check.answers(place + " degree", () -> x.degree(form, i, j), numbers.length - 1);
-        for (int power = -1; power <= 13; power++) {
-            int p = power;
-            int due = power < 0 || power >= numbers.length ? 0 : Math.floorMod(numbers[power], 32003);
-            check.answers(place + " power " + power, () -> x.at(form, i, j, p), due);
-        }
     }
 
     private static void promise1NewObject() {
@@ -113,7 +81,7 @@ public final class PromisesTest {
     }
 
     private static void promise2SizeRefuses() {
-        NormalForms x = ofNumbers(2, 1, 2, 3, 4);
+        NormalForms x = Given.ofNumbers(2, 1, 2, 3, 4);
         x.make(0);
         int[][] below = {{-1, 2}, {2, -1}, {-1, -1}, {9, -1}, {-1, 9}, {LEAST, MOST}, {MOST, LEAST}};
         for (int[] sizes : below) {
@@ -132,7 +100,7 @@ public final class PromisesTest {
     }
 
     private static void promise3Put() {
-        NormalForms x = sized(2, 3);
+        NormalForms x = Given.sized(2, 3);
         check.equal("put: another", x.put(1, 2, 3, 7), true);
         check.equal("put: the same", x.put(1, 2, 3, 7), false);
         check.equal("put: the same modulo 32003", x.put(1, 2, 3, 7 - 32003), false);
@@ -147,7 +115,8 @@ public final class PromisesTest {
         check.equal("put: the greatest int modulo", x.entry(0, 0, 0), MOST % 32003);
         check.equal("put: back to 0", x.put(0, 0, 0, 0), true);
         int[][] wrong = {
-            {-1, 0, 0}, {2, 0, 0}, {0, -1, 0}, {0, 3, 0}, {0, 0, -1}, {0, 0, 4}, {MOST, 0, 0}, {0, LEAST, 0}, {0, 0, MOST}
+            {-1, 0, 0}, {2, 0, 0}, {0, -1, 0}, {0, 3, 0}, {0, 0, -1}, {0, 0, 4},
+            {MOST, 0, 0}, {0, LEAST, 0}, {0, 0, MOST}
         };
         for (int[] w : wrong) {
             check.throwing("put(" + w[0] + ", " + w[1] + ", " + w[2] + ", 1)", ArrayIndexOutOfBoundsException.class,
@@ -157,7 +126,7 @@ public final class PromisesTest {
     }
 
     private static void promise3PutTakesFormsAway() {
-        NormalForms x = ofNumbers(2, 1, 2, 3, 4);
+        NormalForms x = Given.ofNumbers(2, 1, 2, 3, 4);
         x.make(0);
         x.make(1);
         x.make(2);
@@ -177,14 +146,14 @@ public final class PromisesTest {
     }
 
     private static void promise4Entry() {
-        NormalForms x = sized(4, 4);
+        NormalForms x = Given.sized(4, 4);
         for (int k = 0; k < 64; k++) {
             x.put(k / 16, k / 4 % 4, k % 4, 100 + k);
         }
         for (int k = 0; k < 64; k++) {
             check.equal("entry " + k, x.entry(k / 16, k / 4 % 4, k % 4), 100 + k);
         }
-        NormalForms y = sized(2, 3);
+        NormalForms y = Given.sized(2, 3);
         int[][] wrong = {{-1, 0, 0}, {2, 0, 0}, {0, -1, 0}, {0, 3, 0}, {0, 0, -1}, {0, 0, 4}, {LEAST, MOST, LEAST}};
         for (int[] w : wrong) {
             check.throwing("entry(" + w[0] + ", " + w[1] + ", " + w[2] + ")", ArrayIndexOutOfBoundsException.class,
@@ -193,10 +162,10 @@ public final class PromisesTest {
     }
 
     private static void promise5Make() {
-        NormalForms x = sized(3, 2);
+        NormalForms x = Given.sized(3, 2);
         check.answers("make of zeros", () -> x.make(0), 0);
-        polynomial(x, 0, 0, 1, 1);
-        polynomial(x, 1, 0, 0, 1, 1);
+        Given.polynomial(x, 0, 0, 1, 1);
+        Given.polynomial(x, 1, 0, 0, 1, 1);
         check.answers("make: Hermite", () -> x.make(0), 1);
         check.answers("make: Smith", () -> x.make(1), 1);
         check.answers("make: no inverse of 3 rows and 2 columns", () -> x.make(2), -1);
@@ -210,25 +179,25 @@ public final class PromisesTest {
     }
 
     private static void promise5MakeInverse() {
-        NormalForms x = sized(2, 2);
+        NormalForms x = Given.sized(2, 2);
         check.answers("no inverse of zeros", () -> x.make(2), -1);
         check.answers("no form then", () -> x.count(2), 0);
         check.throwing("no entry then", IllegalStateException.class, () -> x.at(2, 0, 0, 0));
-        polynomial(x, 0, 0, 0, 1);
-        polynomial(x, 1, 1, 1);
+        Given.polynomial(x, 0, 0, 0, 1);
+        Given.polynomial(x, 1, 1, 1);
         check.answers("no inverse if the determinant is x", () -> x.make(2), -1);
-        polynomial(x, 0, 0, 5, 0);
+        Given.polynomial(x, 0, 0, 5, 0);
         check.answers("an inverse if it is 5", () -> x.make(2), 2);
         check.answers("it is there", () -> x.count(2), 1);
-        check.answers("1 row: none of 0", () -> sized(1, 1).make(2), -1);
-        check.answers("1 row: one of 3", () -> ofNumbers(1, 3).make(2), 1);
-        check.answers("no rows but columns: none", () -> sized(0, 2).make(2), -1);
-        check.answers("no rows, no columns: one", () -> sized(0, 0).make(2), 0);
+        check.answers("1 row: none of 0", () -> Given.sized(1, 1).make(2), -1);
+        check.answers("1 row: one of 3", () -> Given.ofNumbers(1, 3).make(2), 1);
+        check.answers("no rows but columns: none", () -> Given.sized(0, 2).make(2), -1);
+        check.answers("no rows, no columns: one", () -> Given.sized(0, 0).make(2), 0);
     }
 
     private static void promise6Degree() {
-        NormalForms x = sized(2, 2);
-        polynomial(x, 0, 0, 1, 2, 0, 4);
+        NormalForms x = Given.sized(2, 2);
+        Given.polynomial(x, 0, 0, 1, 2, 0, 4);
         check.throwing("degree before make", IllegalStateException.class, () -> x.degree(0, 0, 0));
         x.make(0);
         check.answers("degree", () -> x.degree(0, 0, 0), 3);
@@ -246,11 +215,11 @@ public final class PromisesTest {
     }
 
     private static void promise7At() {
-        NormalForms x = sized(2, 2);
-        polynomial(x, 0, 1, 6, 4, 2);
+        NormalForms x = Given.sized(2, 2);
+        Given.polynomial(x, 0, 1, 6, 4, 2);
         check.throwing("at before make", IllegalStateException.class, () -> x.at(1, 0, 0, 0));
         x.make(0);
-        formIs("at", x, 0, 0, 1, 3, 2, 1);
+        check.form("at", x, 0, 0, 1, 3, 2, 1);
         check.answers("at: far above", () -> x.at(0, 0, 1, MOST), 0);
         check.answers("at: far below", () -> x.at(0, 0, 1, LEAST), 0);
         check.throwing("at of a form that isn't there", IllegalStateException.class, () -> x.at(2, 9, 9, 0));
@@ -267,7 +236,7 @@ public final class PromisesTest {
     private static void formsOfNoRows() {
         int[][] sizes = {{0, 0}, {0, 3}, {3, 0}};
         for (int[] s : sizes) {
-            NormalForms x = sized(s[0], s[1]);
+            NormalForms x = Given.sized(s[0], s[1]);
             for (int form = 0; form < 2; form++) {
                 int f = form;
                 check.answers("nothing: make", () -> x.make(f), 0);
@@ -280,126 +249,126 @@ public final class PromisesTest {
 
     private static void hermiteForm() {
         // x and x + 1 have 1 as a common divisor: (x + 1, 0) less (x, 1) is (1, -1).
-        NormalForms x = sized(2, 2);
-        polynomial(x, 0, 0, 0, 1);
-        polynomial(x, 0, 1, 1);
-        polynomial(x, 1, 0, 1, 1);
+        NormalForms x = Given.sized(2, 2);
+        Given.polynomial(x, 0, 0, 0, 1);
+        Given.polynomial(x, 0, 1, 1);
+        Given.polynomial(x, 1, 0, 1, 1);
         x.make(0);
-        formIs("Hermite", x, 0, 0, 0, 1);
-        formIs("Hermite", x, 0, 0, 1, -1);
-        formIs("Hermite", x, 0, 1, 0);
-        formIs("Hermite", x, 0, 1, 1, 1, 1);
+        check.form("Hermite", x, 0, 0, 0, 1);
+        check.form("Hermite", x, 0, 0, 1, -1);
+        check.form("Hermite", x, 0, 1, 0);
+        check.form("Hermite", x, 0, 1, 1, 1, 1);
 
         // The first column has no pivot, rows of zeros come last, columns are not put onto others.
-        NormalForms y = sized(3, 3);
-        polynomial(y, 1, 1, 0, 0, 2);
-        polynomial(y, 1, 2, 4);
-        polynomial(y, 2, 1, 0, 0, 1);
-        polynomial(y, 2, 2, 2);
+        NormalForms y = Given.sized(3, 3);
+        Given.polynomial(y, 1, 1, 0, 0, 2);
+        Given.polynomial(y, 1, 2, 4);
+        Given.polynomial(y, 2, 1, 0, 0, 1);
+        Given.polynomial(y, 2, 2, 2);
         y.make(0);
-        formIs("gap", y, 0, 0, 0);
-        formIs("gap", y, 0, 0, 1, 0, 0, 1);
-        formIs("gap", y, 0, 0, 2, 2);
+        check.form("gap", y, 0, 0, 0);
+        check.form("gap", y, 0, 0, 1, 0, 0, 1);
+        check.form("gap", y, 0, 0, 2, 2);
         for (int j = 0; j < 3; j++) {
-            formIs("gap", y, 0, 1, j);
-            formIs("gap", y, 0, 2, j);
+            check.form("gap", y, 0, 1, j);
+            check.form("gap", y, 0, 2, j);
         }
 
         // Above a pivot degrees are lower: (1, x^3) less x times (0, x^2 + 1) is (1, -x).
-        NormalForms z = sized(2, 2);
-        polynomial(z, 0, 0, 1);
-        polynomial(z, 0, 1, 0, 0, 0, 1);
-        polynomial(z, 1, 1, 3, 0, 3);
+        NormalForms z = Given.sized(2, 2);
+        Given.polynomial(z, 0, 0, 1);
+        Given.polynomial(z, 0, 1, 0, 0, 0, 1);
+        Given.polynomial(z, 1, 1, 3, 0, 3);
         z.make(0);
-        formIs("above", z, 0, 0, 1, 0, -1);
-        formIs("above", z, 0, 1, 1, 1, 0, 1);
+        check.form("above", z, 0, 0, 1, 0, -1);
+        check.form("above", z, 0, 1, 1, 1, 0, 1);
         check.equal("the matrix itself stays", z.entry(1, 1, 2), 3);
     }
 
     private static void smithForm() {
         // x and x + 1 at (i, i): 1 and their product.
-        NormalForms x = sized(2, 3);
-        polynomial(x, 0, 0, 0, 5);
-        polynomial(x, 1, 1, 1, 1);
+        NormalForms x = Given.sized(2, 3);
+        Given.polynomial(x, 0, 0, 0, 5);
+        Given.polynomial(x, 1, 1, 1, 1);
         x.make(1);
-        formIs("Smith", x, 1, 0, 0, 1);
-        formIs("Smith", x, 1, 1, 1, 0, 1, 1);
-        formIs("Smith", x, 1, 0, 1);
-        formIs("Smith", x, 1, 1, 0);
-        formIs("Smith", x, 1, 0, 2);
+        check.form("Smith", x, 1, 0, 0, 1);
+        check.form("Smith", x, 1, 1, 1, 0, 1, 1);
+        check.form("Smith", x, 1, 0, 1);
+        check.form("Smith", x, 1, 1, 0);
+        check.form("Smith", x, 1, 0, 2);
 
         // x^2 stands before x: they change places.
-        NormalForms y = sized(3, 3);
-        polynomial(y, 0, 0, 0, 0, 2);
-        polynomial(y, 1, 2, 0, 3);
+        NormalForms y = Given.sized(3, 3);
+        Given.polynomial(y, 0, 0, 0, 0, 2);
+        Given.polynomial(y, 1, 2, 0, 3);
         y.make(1);
-        formIs("order", y, 1, 0, 0, 0, 1);
-        formIs("order", y, 1, 1, 1, 0, 0, 1);
-        formIs("order", y, 1, 2, 2);
-        formIs("order", y, 1, 1, 2);
+        check.form("order", y, 1, 0, 0, 0, 1);
+        check.form("order", y, 1, 1, 1, 0, 0, 1);
+        check.form("order", y, 1, 2, 2);
+        check.form("order", y, 1, 1, 2);
 
         // The highest degree that there is: x^3 + i at (i, i), none having a common divisor.
-        NormalForms z = sized(4, 4);
+        NormalForms z = Given.sized(4, 4);
         for (int i = 0; i < 4; i++) {
-            polynomial(z, i, i, i, 0, 0, 1);
+            Given.polynomial(z, i, i, i, 0, 0, 1);
         }
         z.make(1);
-        formIs("high", z, 1, 0, 0, 1);
-        formIs("high", z, 1, 2, 2, 1);
-        formIs("high", z, 1, 3, 3, 0, 0, 0, 6, 0, 0, 11, 0, 0, 6, 0, 0, 1);
+        check.form("high", z, 1, 0, 0, 1);
+        check.form("high", z, 1, 2, 2, 1);
+        check.form("high", z, 1, 3, 3, 0, 0, 0, 6, 0, 0, 11, 0, 0, 6, 0, 0, 1);
     }
 
     private static void inverseForm() {
         // (1, x; 0, 2): its inverse is (1, -x / 2; 0, 1 / 2), a half being 16002.
-        NormalForms x = sized(2, 2);
-        polynomial(x, 0, 0, 1);
-        polynomial(x, 0, 1, 0, 1);
-        polynomial(x, 1, 1, 2);
+        NormalForms x = Given.sized(2, 2);
+        Given.polynomial(x, 0, 0, 1);
+        Given.polynomial(x, 0, 1, 0, 1);
+        Given.polynomial(x, 1, 1, 2);
         check.answers("inverse", () -> x.make(2), 2);
-        formIs("inverse", x, 2, 0, 0, 1);
-        formIs("inverse", x, 2, 0, 1, 0, -16002);
-        formIs("inverse", x, 2, 1, 0);
-        formIs("inverse", x, 2, 1, 1, 16002);
+        check.form("inverse", x, 2, 0, 0, 1);
+        check.form("inverse", x, 2, 0, 1, 0, -16002);
+        check.form("inverse", x, 2, 1, 0);
+        check.form("inverse", x, 2, 1, 1, 16002);
 
         // 1 at (i, i), x^3 right of it: at the far right of the inverse is -x^9.
-        NormalForms y = sized(4, 4);
+        NormalForms y = Given.sized(4, 4);
         for (int i = 0; i < 4; i++) {
-            polynomial(y, i, i, 1);
+            Given.polynomial(y, i, i, 1);
             if (i < 3) {
-                polynomial(y, i, i + 1, 0, 0, 0, 1);
+                Given.polynomial(y, i, i + 1, 0, 0, 0, 1);
             }
         }
         y.make(2);
-        formIs("high inverse", y, 2, 0, 3, 0, 0, 0, 0, 0, 0, 0, 0, 0, -1);
-        formIs("high inverse", y, 2, 0, 2, 0, 0, 0, 0, 0, 0, 1);
-        formIs("high inverse", y, 2, 3, 0);
+        check.form("high inverse", y, 2, 0, 3, 0, 0, 0, 0, 0, 0, 0, 0, 0, -1);
+        check.form("high inverse", y, 2, 0, 2, 0, 0, 0, 0, 0, 0, 1);
+        check.form("high inverse", y, 2, 3, 0);
     }
 
     private static void promise8Rank() {
-        NormalForms x = sized(3, 4);
+        NormalForms x = Given.sized(3, 4);
         check.answers("rank of zeros", x::rank, 0);
-        polynomial(x, 2, 3, 0, 0, 0, 1);
+        Given.polynomial(x, 2, 3, 0, 0, 0, 1);
         check.answers("rank of one entry", x::rank, 1);
-        polynomial(x, 1, 3, 7);
+        Given.polynomial(x, 1, 3, 7);
         check.answers("rank of one column", x::rank, 1);
-        polynomial(x, 0, 0, 0, 1);
+        Given.polynomial(x, 0, 0, 0, 1);
         check.answers("rank 2", x::rank, 2);
-        polynomial(x, 1, 1, 1);
+        Given.polynomial(x, 1, 1, 1);
         check.answers("rank 3", x::rank, 3);
-        NormalForms y = sized(2, 2);
-        polynomial(y, 0, 0, 0, 1);
-        polynomial(y, 0, 1, 0, 0, 1);
-        polynomial(y, 1, 0, 1);
-        polynomial(y, 1, 1, 0, 1);
+        NormalForms y = Given.sized(2, 2);
+        Given.polynomial(y, 0, 0, 0, 1);
+        Given.polynomial(y, 0, 1, 0, 0, 1);
+        Given.polynomial(y, 1, 0, 1);
+        Given.polynomial(y, 1, 1, 0, 1);
         check.answers("rank of a multiple", y::rank, 1);
-        check.answers("rank without rows", () -> sized(0, 4).rank(), 0);
-        check.answers("rank without columns", () -> sized(4, 0).rank(), 0);
+        check.answers("rank without rows", () -> Given.sized(0, 4).rank(), 0);
+        check.answers("rank without columns", () -> Given.sized(4, 0).rank(), 0);
     }
 
     private static void promise9Determinant() {
-        NormalForms x = sized(4, 4);
+        NormalForms x = Given.sized(4, 4);
         for (int i = 0; i < 4; i++) {
-            polynomial(x, i, i, 1, 0, 0, 1);
+            Given.polynomial(x, i, i, 1, 0, 0, 1);
         }
         int[] due = {1, 0, 0, 4, 0, 0, 6, 0, 0, 4, 0, 0, 1};
         for (int power = -1; power <= 14; power++) {
@@ -408,19 +377,19 @@ public final class PromisesTest {
         }
         check.answers("determinant(least)", () -> x.determinant(LEAST), 0);
         check.answers("determinant(most)", () -> x.determinant(MOST), 0);
-        NormalForms y = ofNumbers(3, 0, 1, 0, 1, 0, 0, 0, 0, 1);
+        NormalForms y = Given.ofNumbers(3, 0, 1, 0, 1, 0, 0, 0, 0, 1);
         check.answers("exchanged rows change the sign", () -> y.determinant(0), 32002);
         check.answers("without rows it is 1", () -> new NormalForms().determinant(0), 1);
         check.answers("without rows it has no power 1", () -> new NormalForms().determinant(1), 0);
         for (int rows = 0; rows <= 4; rows++) {
-            NormalForms z = sized(rows, (rows + 1) % 5);
+            NormalForms z = Given.sized(rows, (rows + 1) % 5);
             check.throwing("determinant, not square", IllegalStateException.class, () -> z.determinant(0));
         }
     }
 
     private static void promise10Characteristic() {
         // Its numbers alone count: x^2 - 5 x - 2.
-        NormalForms x = ofNumbers(2, 1, 2, 3, 4);
+        NormalForms x = Given.ofNumbers(2, 1, 2, 3, 4);
         x.put(0, 1, 1, 9);
         x.put(1, 1, 3, 9);
         int[] due = {-2, -5, 1};
@@ -429,18 +398,19 @@ public final class PromisesTest {
             check.answers("characteristic(" + p + ")", () -> x.characteristic(p),
                     p < 0 || p > 2 ? 0 : Math.floorMod(due[p], 32003));
         }
-        NormalForms zeros = sized(4, 4);
+        NormalForms zeros = Given.sized(4, 4);
         check.answers("of zeros x^4", () -> zeros.characteristic(4), 1);
         check.answers("of zeros nothing else", () -> zeros.characteristic(3), 0);
-        check.answers("without rows it is 1", () -> sized(0, 0).characteristic(0), 1);
-        check.answers("without rows it has no power 1", () -> sized(0, 0).characteristic(1), 0);
-        check.throwing("characteristic, not square", IllegalStateException.class, () -> sized(2, 3).characteristic(0));
+        check.answers("without rows it is 1", () -> Given.sized(0, 0).characteristic(0), 1);
+        check.answers("without rows it has no power 1", () -> Given.sized(0, 0).characteristic(1), 0);
+        check.throwing("characteristic, not square", IllegalStateException.class,
+                () -> Given.sized(2, 3).characteristic(0));
         check.throwing("characteristic, no rows, one column", IllegalStateException.class,
-                () -> sized(0, 1).characteristic(0));
+                () -> Given.sized(0, 1).characteristic(0));
     }
 
     private static void promise11Minimal() {
-        NormalForms x = ofNumbers(3, 2, 0, 0, 0, 2, 0, 0, 0, 3);
+        NormalForms x = Given.ofNumbers(3, 2, 0, 0, 0, 2, 0, 0, 0, 3);
         int[] due = {6, -5, 1};
         for (int power = -1; power <= 5; power++) {
             int p = power;
@@ -449,20 +419,20 @@ public final class PromisesTest {
         x.put(0, 1, 0, 1);
         check.answers("minimal of a longer block", () -> x.minimal(3), 1);
         check.answers("minimal of a longer block, at 0", () -> x.minimal(0), 32003 - 12);
-        NormalForms zeros = sized(4, 4);
+        NormalForms zeros = Given.sized(4, 4);
         check.answers("of zeros x", () -> zeros.minimal(1), 1);
         check.answers("of zeros no more", () -> zeros.minimal(2), 0);
         check.answers("of zeros not 1", () -> zeros.minimal(0), 0);
-        NormalForms one = ofNumbers(1, 7);
+        NormalForms one = Given.ofNumbers(1, 7);
         check.answers("of one number", () -> one.minimal(0), 32003 - 7);
-        check.answers("without rows it is 1", () -> sized(0, 0).minimal(0), 1);
-        check.answers("without rows it has no power 1", () -> sized(0, 0).minimal(1), 0);
-        check.answers("without rows it has no power -1", () -> sized(0, 0).minimal(-1), 0);
-        check.throwing("minimal, not square", IllegalStateException.class, () -> sized(3, 2).minimal(0));
+        check.answers("without rows it is 1", () -> Given.sized(0, 0).minimal(0), 1);
+        check.answers("without rows it has no power 1", () -> Given.sized(0, 0).minimal(1), 0);
+        check.answers("without rows it has no power -1", () -> Given.sized(0, 0).minimal(-1), 0);
+        check.throwing("minimal, not square", IllegalStateException.class, () -> Given.sized(3, 2).minimal(0));
     }
 
     private static void promise12Root() {
-        NormalForms x = ofNumbers(4, 32002, 0, 0, 0, 0, 5, 0, 0, 0, 0, 0, 0, 0, 0, 0, 16001);
+        NormalForms x = Given.ofNumbers(4, 32002, 0, 0, 0, 0, 5, 0, 0, 0, 0, 0, 0, 0, 0, 0, 16001);
         int[] due = {0, 5, 16001, 32002};
         for (int k = -1; k <= 5; k++) {
             int index = k;
@@ -476,23 +446,23 @@ public final class PromisesTest {
         check.answers("each once, the second", () -> x.root(1), 5);
         check.answers("each once, no more", () -> x.root(2), -1);
         // x^2 + 1 has no root, as 32003 leaves 3 if it is divided by 4.
-        NormalForms none = ofNumbers(2, 0, -1, 1, 0);
+        NormalForms none = Given.ofNumbers(2, 0, -1, 1, 0);
         check.answers("no root", () -> none.root(0), -1);
-        NormalForms mixed = ofNumbers(3, 0, -1, 0, 1, 0, 0, 0, 0, 9);
+        NormalForms mixed = Given.ofNumbers(3, 0, -1, 0, 1, 0, 0, 0, 0, 9);
         check.answers("one root beside x^2 + 1", () -> mixed.root(0), 9);
         check.answers("only one beside x^2 + 1", () -> mixed.root(1), -1);
-        NormalForms powers = ofNumbers(2, 1, 0, 0, 2);
+        NormalForms powers = Given.ofNumbers(2, 1, 0, 0, 2);
         check.answers("before a higher power", () -> powers.root(1), 2);
         powers.put(0, 1, 2, 8);
         check.answers("higher powers do not count", () -> powers.root(1), 2);
-        check.answers("without rows none", () -> sized(0, 0).root(0), -1);
-        check.throwing("root, not square", IllegalStateException.class, () -> sized(1, 2).root(0));
-        check.throwing("root, not square, no such root", IllegalStateException.class, () -> sized(1, 2).root(-1));
+        check.answers("without rows none", () -> Given.sized(0, 0).root(0), -1);
+        check.throwing("root, not square", IllegalStateException.class, () -> Given.sized(1, 2).root(0));
+        check.throwing("root, not square, no such root", IllegalStateException.class, () -> Given.sized(1, 2).root(-1));
     }
 
     private static void promise13Blocks() {
         // Root 0 with blocks of sizes 2 and 1, root 7 with one of size 1.
-        NormalForms x = ofNumbers(4, 0, 1, 0, 0, 0, 0, 0, 0, 0, 0, 0, 0, 0, 0, 0, 7);
+        NormalForms x = Given.ofNumbers(4, 0, 1, 0, 0, 0, 0, 0, 0, 0, 0, 0, 0, 0, 0, 0, 7);
         int[][] due = {{1, 1, 0, 0, 0, 0}, {1, 0, 0, 0, 0, 0}};
         for (int k = 0; k < 2; k++) {
             for (int n = 1; n <= 6; n++) {
@@ -507,19 +477,20 @@ public final class PromisesTest {
             check.throwing("blocks(" + w[0] + ", " + w[1] + ")", IllegalArgumentException.class,
                     () -> x.blocks(w[0], w[1]));
         }
-        NormalForms one = ofNumbers(4, 3, 1, 0, 0, 0, 3, 1, 0, 0, 0, 3, 1, 0, 0, 0, 3);
+        NormalForms one = Given.ofNumbers(4, 3, 1, 0, 0, 0, 3, 1, 0, 0, 0, 3, 1, 0, 0, 0, 3);
         check.answers("one block of size 4", () -> one.blocks(0, 4), 1);
         check.answers("none of size 3", () -> one.blocks(0, 3), 0);
-        NormalForms pairs = ofNumbers(4, 3, 1, 0, 0, 0, 3, 0, 0, 0, 0, 3, 1, 0, 0, 0, 3);
+        NormalForms pairs = Given.ofNumbers(4, 3, 1, 0, 0, 0, 3, 0, 0, 0, 0, 3, 1, 0, 0, 0, 3);
         check.answers("two blocks of size 2", () -> pairs.blocks(0, 2), 2);
-        check.answers("four blocks of size 1", () -> sized(4, 4).blocks(0, 1), 4);
-        check.throwing("blocks without rows", IllegalArgumentException.class, () -> sized(0, 0).blocks(0, 1));
-        check.throwing("blocks, not square", IllegalStateException.class, () -> sized(2, 1).blocks(0, 1));
-        check.throwing("blocks, not square comes first", IllegalStateException.class, () -> sized(2, 1).blocks(-1, 0));
+        check.answers("four blocks of size 1", () -> Given.sized(4, 4).blocks(0, 1), 4);
+        check.throwing("blocks without rows", IllegalArgumentException.class, () -> Given.sized(0, 0).blocks(0, 1));
+        check.throwing("blocks, not square", IllegalStateException.class, () -> Given.sized(2, 1).blocks(0, 1));
+        check.throwing("blocks, not square comes first", IllegalStateException.class,
+                () -> Given.sized(2, 1).blocks(-1, 0));
     }
 
     private static void promise14Count() {
-        NormalForms x = ofNumbers(3, 1, 0, 0, 0, 1, 0, 0, 0, 1);
+        NormalForms x = Given.ofNumbers(3, 1, 0, 0, 0, 1, 0, 0, 0, 1);
         check.answers("no form yet", () -> x.count(2), 0);
         x.make(1);
         check.answers("one form", () -> x.count(2), 1);
@@ -527,7 +498,7 @@ public final class PromisesTest {
         check.answers("two forms", () -> x.count(2), 2);
         x.make(0);
         check.answers("three forms", () -> x.count(2), 3);
-        NormalForms y = sized(2, 4);
+        NormalForms y = Given.sized(2, 4);
         check.answers("rows", () -> y.count(0), 2);
         check.answers("columns", () -> y.count(1), 4);
         for (int which : new int[] {-1, 3, 4, LEAST, MOST}) {
